@@ -199,7 +199,8 @@ public final class PromiseTests {
     private static void promise4ErrorPosition() {
         String[] right = {"", " ", "a", "  a  ", "a+b", "+-*=,.", "()", "r()", "a/b", "a/b/c", "(a)/(b)", "^a", "_1",
             "^a^b", "a^b_c/d^e", "^(a)", "^r(a)", "a/b ^2", "r(a)/r(b)", "(()())", "^() ", "a b", "a ^b", "+^a", "(+)",
-            "r(^a)", "(a/b)/c", "()/()", "0123456789", "abcdefghijklmnopqstuvwxyz", "a^(b/c)_r(d)"};
+            "r(^a)", "(a/b)/c", "()/()", "0123456789", "abcdefghijklmnopqstuvwxyz", "a^(b/c)_r(d)", "a^(b)/c",
+            "a_(^b)^(c)/d"};
         for (String text : right) {
             errorAt(text, NONE);
         }
@@ -223,6 +224,7 @@ public final class PromiseTests {
         errorAt("^a/b", 2);
         errorAt("^a^b/c", 4);
         errorAt(" ^(a)/b", 5);
+        errorAt("^(a^b)/c", 6);
         errorAt("(^a/b)", 3);
         errorAt("^", 1);
         errorAt("a^", 2);
@@ -468,6 +470,8 @@ public final class PromiseTests {
         vertically("a^b_c", 6, false, NONE);
         vertically("a^b_c", 3, false, 4);
         vertically("a^b_c", 3, true, NONE);
+        vertically("_a", 1, true, 3);
+        vertically("^a", 2, false, 3);
         // the script behind the caret comes before the slot that the caret is in
         vertically("_(a^b)", 2, true, 3);
         // only the caret's own row may be the slot of the script
@@ -601,6 +605,8 @@ public final class PromiseTests {
         }
         refused("18 level 6", STATE, () -> x.wrap(2));
         refused("18 the argument comes first", ARGUMENT, () -> x.wrap(9));
+        due("18 a symbol on level 5", x.type('*'), 6);
+        x.undo();
         due("18 nothing was changed", all(x), "((((())))) caret 5 selected 0 from 5");
         x.moveTo(0);
         due("18 beside it", x.wrap(3), 1);
@@ -708,6 +714,7 @@ public final class PromiseTests {
         due("21 the selection stays", x.selection(0), 1);
         due("21 the caret stays", x.about(2), 8);
         due("21 none", x.replace('a', 'b'), 0);
+        due("21 the first and the last", loaded("*a*").replace('*', '.'), 2);
         due("21 by itself", x.replace('b', 'b'), 1);
         due("21 all are actions", x.undo(), 2);
         refused("21 c", ARGUMENT, () -> x.replace('r', 'a'));
@@ -798,6 +805,7 @@ public final class PromiseTests {
     private static void promise24Drawn() {
         drawnAs("", 0, "?|");
         drawnAs("a+b", 0, "a+b|");
+        drawnAs("*(*)*", 0, "*(*)*|");
         drawnAs("a/b", 1, "a|-|b|");
         drawnAs("(abcd)/e", 1, "abcd|----| e  |");
         drawnAs("a/(bcd)+", 1, " a  |---+|bcd |");
@@ -835,6 +843,7 @@ public final class PromiseTests {
         due("25 grows", x.runScript(4, 6000_6000_2002_9002L), NONE);
         due("25 grows too much", x.runScript(4, 6000_6000_6000_7002L), 2);
         due("25 is so wide", x.runScript(1, 9002L), NONE);
+        due("25 a slot is not so wide", loaded("(a)").runScript(1, 9003L), NONE);
         due("25 is not so wide", x.runScript(1, 9003L), 0);
         due("25 there are not so many items", x.runScript(1, 7003L), 0);
         due("25 the caret is elsewhere", x.runScript(2, 8002_8001L), 1);
@@ -845,7 +854,7 @@ public final class PromiseTests {
         due("25 nothing", x.runScript(4, 0L), 0);
         due("25 zeros in front", x.runScript(2, 7002L), 0);
         due("25 the last digits", x.runScript(4, 7002_7002_7002_7003L), 3);
-        long[] others = {2011, 2101, 3100, 4100, 5001, 5100, 6010, 6100, 7102, 8102, 9102, 999};
+        long[] others = {2011, 2101, 2100, 3100, 4100, 5001, 5100, 6010, 6100, 7102, 8102, 9102, 999};
         for (long group : others) {
             due("25 any other group, " + group, x.runScript(1, group), 0);
         }

@@ -84,6 +84,23 @@ public final class ReferenceRuns {
             wrong++;
             System.out.println("run " + run + ": the formula is\n" + got + "\ndue is\n" + want);
         }
+        String linear = reference.linear();
+        if (linear.length() <= 120) {
+            readBack(run, linear, want);
+        }
+    }
+
+    private static void readBack(int run, String linear, String want) {
+        FormulaEditor editor = new FormulaEditor();
+        for (int i = 0; i < linear.length(); i++) {
+            editor.append(linear.charAt(i));
+        }
+        editor.load();
+        String got = whole(editor);
+        if (!got.equals(want)) {
+            wrong++;
+            System.out.println("run " + run + ": " + linear + " reads back as\n" + got + "\ndue is\n" + want);
+        }
     }
 
     private static String whole(FormulaEditor editor) {
