@@ -4,18 +4,7 @@ import java.lang.reflect.Method;
 import java.lang.reflect.Modifier;
 
 /** For each promise of the document: ordinary inputs, the edges that it names, wrong inputs. */
-public final class PromiseTests {
-    private static final int NONE = FormulaEditor.NONE;
-    private static final String ARGUMENT = "IllegalArgumentException";
-    private static final String STATE = "IllegalStateException";
-    private static final String INDEX = "IndexOutOfBoundsException";
-
-    private static int wrong = 0;
-
-    private interface Call {
-        int made();
-    }
-
+public final class PromiseTests extends Kit {
     public static void main(String[] args) {
         theFace();
         promise1NewObject();
@@ -44,89 +33,7 @@ public final class PromiseTests {
         promise25RunScript();
         promise26Simulate();
         promise27And28SaveSlots();
-        System.out.println(wrong == 0 ? "all promises hold" : wrong + " answers are not as due");
-        if (wrong != 0) {
-            System.exit(1);
-        }
-    }
-
-    // ---- helpers
-
-    private static void due(String what, Object got, Object want) {
-        if (!got.equals(want)) {
-            wrong++;
-            System.out.println(what + ": answered " + got + ", due is " + want);
-        }
-    }
-
-    private static void refused(String what, String want, Call call) {
-        String got;
-        try {
-            got = "the answer " + call.made();
-        } catch (RuntimeException e) {
-            got = e.getClass().getSimpleName();
-        }
-        due(what, got, want);
-    }
-
-    private static void put(FormulaEditor x, String text) {
-        x.clearText();
-        for (int i = 0; i < text.length(); i++) {
-            x.append(text.charAt(i));
-        }
-    }
-
-    private static FormulaEditor withText(String text) {
-        FormulaEditor x = new FormulaEditor();
-        put(x, text);
-        return x;
-    }
-
-    private static FormulaEditor loaded(String text) {
-        FormulaEditor x = withText(text);
-        x.load();
-        return x;
-    }
-
-    private static String linear(FormulaEditor x) {
-        StringBuilder all = new StringBuilder();
-        int length = x.linearLength();
-        for (int i = 0; i < length; i++) {
-            all.append((char) x.linearAt(i));
-        }
-        return all.toString();
-    }
-
-    private static String drawn(FormulaEditor x) {
-        StringBuilder all = new StringBuilder();
-        int width = x.drawing(0);
-        int lines = x.drawing(1);
-        for (int y = 0; y < lines; y++) {
-            for (int i = 0; i < width; i++) {
-                all.append((char) x.drawn(i, y));
-            }
-            all.append('|');
-        }
-        return all.toString();
-    }
-
-    /** The formula, the caret's place and the selection in one line. */
-    private static String all(FormulaEditor x) {
-        return linear(x) + " caret " + x.about(2) + " selected " + x.selection(0) + " from " + x.selection(2);
-    }
-
-    private static void typeAll(FormulaEditor x, String symbols) {
-        for (int i = 0; i < symbols.length(); i++) {
-            x.type(symbols.charAt(i));
-        }
-    }
-
-    private static FormulaEditor full() {
-        FormulaEditor x = new FormulaEditor();
-        for (int i = 0; i < 60; i++) {
-            x.type('a');
-        }
-        return x;
+        finish("all promises hold");
     }
 
     // ---- promises
@@ -385,12 +292,7 @@ public final class PromiseTests {
 
     /** Rows of fractions with empty slots, and of scripts behind fractions. */
     private static void theLongestText() {
-        FormulaEditor x = new FormulaEditor();
-        for (int i = 0; i < 60; i++) {
-            x.wrap(1);
-            x.moveTo(x.about(1) - 1);
-        }
-        due("9 60 fractions", linear(x), "()/()".repeat(60));
+        due("9 60 fractions", linear(fractions(60)), "()/()".repeat(60));
         FormulaEditor y = new FormulaEditor();
         for (int i = 0; i < 30; i++) {
             y.wrap(1);
@@ -569,7 +471,7 @@ public final class PromiseTests {
         y.extend(true);
         due("17 in place of the selection", y.type('x'), 2);
         due("17 then", all(y), "ax caret 2 selected 0 from 2");
-        FormulaEditor z = full();
+        FormulaEditor z = symbols(60);
         refused("17 61 items", STATE, () -> z.type('a'));
         refused("17 the argument comes first", ARGUMENT, () -> z.type('r'));
         z.grow();
@@ -613,7 +515,7 @@ public final class PromiseTests {
         x.moveTo(x.about(1) - 1);
         x.grow();
         refused("18 level 6 by the selection", STATE, () -> x.wrap(5));
-        FormulaEditor y = full();
+        FormulaEditor y = symbols(60);
         refused("18 61 items", STATE, () -> y.wrap(1));
         y.grow();
         refused("18 61 items with a selection", STATE, () -> y.wrap(1));
@@ -768,38 +670,8 @@ public final class PromiseTests {
         due("23 above", x.drawing(2), 1);
         refused("23 drawing(-1)", ARGUMENT, () -> x.drawing(-1));
         refused("23 drawing(3)", ARGUMENT, () -> x.drawing(3));
-        FormulaEditor y = new FormulaEditor();
-        for (int i = 0; i < 60; i++) {
-            y.wrap(5);
-            y.moveTo(y.about(1) - 1);
-        }
-        due("23 the widest", y.drawing(0), 180);
-        tallest();
-    }
-
-    /** 31 fractions, five levels deep. */
-    private static void tallest() {
-        FormulaEditor y = new FormulaEditor();
-        tower(y, 5);
-        due("23 the tallest", y.drawing(1), 63);
-        due("23 its base line", y.drawing(2), 31);
-        due("23 its width", y.drawing(0), 1);
-        due("24 its top", y.drawn(0, 0), (int) '?');
-        due("24 its first line", y.drawn(0, 1), (int) '-');
-    }
-
-    private static void tower(FormulaEditor x, int levels) {
-        if (levels > 0) {
-            int place = x.wrap(1);
-            tower(x, levels - 1);
-            x.moveTo(place);
-            // over the items of the numerator and into the denominator
-            while (x.place(x.about(2), 5) != NONE) {
-                x.extend(true);
-            }
-            x.moveTo(x.about(2) + 1);
-            tower(x, levels - 1);
-        }
+        due("23 the widest", widest().drawing(0), 180);
+        due("23 the tallest", tallest().drawing(1), 63);
     }
 
     private static void promise24Drawn() {
@@ -871,7 +743,7 @@ public final class PromiseTests {
         due("25 the selection", x.runScript(2, 1120_7002L), NONE);
         due("25 moving ends it", x.runScript(3, 3000_1120_7003L), NONE);
         due("25 the selection stays", x.selection(0), 1);
-        FormulaEditor y = full();
+        FormulaEditor y = symbols(60);
         due("25 too large", y.runScript(2, 7060_1097L), 1);
         due("25 too large to wrap", y.runScript(1, 2001L), 0);
     }
