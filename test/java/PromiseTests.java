@@ -1,12 +1,6 @@
-import java.lang.reflect.Constructor;
-import java.lang.reflect.Field;
-import java.lang.reflect.Method;
-import java.lang.reflect.Modifier;
-
 /** For each promise of the document: ordinary inputs, the edges that it names, wrong inputs. */
 public final class PromiseTests extends Kit {
     public static void main(String[] args) {
-        theFace();
         promise1NewObject();
         promise2Append();
         promise3ClearText();
@@ -37,30 +31,6 @@ public final class PromiseTests extends Kit {
     }
 
     // ---- promises
-
-    private static void theFace() {
-        StringBuilder open = new StringBuilder();
-        for (Method method : FormulaEditor.class.getDeclaredMethods()) {
-            if (Modifier.isPublic(method.getModifiers())) {
-                open.append(method.getName()).append(' ');
-            } else if (!Modifier.isPrivate(method.getModifiers()) && !method.isSynthetic()) {
-                due("a method that is neither public nor private", method.getName(), "");
-            }
-        }
-        due("the number of public methods", open.toString().split(" ").length, 27);
-        int fields = 0;
-        for (Field field : FormulaEditor.class.getDeclaredFields()) {
-            if (!Modifier.isPrivate(field.getModifiers()) && !field.isSynthetic()) {
-                fields++;
-                due("the constant", field.getName(), "NONE");
-            }
-        }
-        due("the number of constants", fields, 1);
-        Constructor<?>[] constructors = FormulaEditor.class.getDeclaredConstructors();
-        due("the number of constructors", constructors.length, 1);
-        due("the class is final", Modifier.isFinal(FormulaEditor.class.getModifiers()), true);
-        due("NONE", FormulaEditor.NONE, -9);
-    }
 
     private static void promise1NewObject() {
         FormulaEditor x = new FormulaEditor();
